@@ -14,7 +14,7 @@ public final class FirstTimes {
     private static final int MOST_REPEAT_DAYS = 60;
     private static final int HABITS = 4;
     private static final int HABIT_OF_NONE = 3;
-    private static final long ALL_PARTS = 1000000000L;
+    private static final long BILLION = 1000000000L;
 
     private final Tape tape;
     private final Market market;
@@ -337,12 +337,12 @@ public final class FirstTimes {
                 || what < 0 || what > 1) {
             return NONE;
         }
-        long parts = ALL_PARTS;
+        long parts = BILLION;
         int best = NONE;
         int when = 0;
         for (int i = 0; i <= n; i++) {
             eye.look(now, person, i, 0);
-            int worth = (int) (parts * eye.delight(thing, now.hadBy(person)) / ALL_PARTS);
+            int worth = (int) (parts * eye.delight(thing, now.hadBy(person)) / BILLION);
             if (worth > best) {
                 best = worth;
                 when = i;
