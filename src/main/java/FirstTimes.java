@@ -696,16 +696,12 @@ public final class FirstTimes {
             return false;
         }
 
-        boolean accept(int wanted) {
+        boolean expect(int wanted) {
             if (sign() != wanted) {
-                return false;
+                return failAt(at);
             }
             at++;
             return true;
-        }
-
-        boolean expect(int wanted) {
-            return accept(wanted) || failAt(at);
         }
 
         /** A digit that is a sign by itself; NONE behind a failure. */
@@ -1053,7 +1049,7 @@ public final class FirstTimes {
             }
             int sign = tape.sign();
             if (sign == '!' || sign == '(') {
-                return readUnit(0) && readMoreUnits(0) && readConsequence();
+                return readUnit(0, false) && readMoreUnits(0) && readConsequence();
             }
             if (!readSum(0)) {
                 return false;
@@ -1062,7 +1058,7 @@ public final class FirstTimes {
                 return true;
             }
             // Only here it shows that the sum was the left side of a condition.
-            return readRightSide(0) && readMoreUnits(0) && readConsequence();
+            return readUnit(0, true) && readMoreUnits(0) && readConsequence();
         }
 
         private boolean readConsequence() {
@@ -1086,7 +1082,7 @@ public final class FirstTimes {
                     emit(-'|');
                 }
                 either |= sign == '|';
-                if (!readUnit(nested)) {
+                if (!readUnit(nested, false)) {
                     return false;
                 }
                 if (sign == '&') {
@@ -1099,20 +1095,36 @@ public final class FirstTimes {
             return true;
         }
 
-        private boolean readUnit(int nested) {
+        private boolean readUnit(int nested, boolean leftIsRead) {
             int sign = tape.sign();
-            if (sign != '!' && sign != '(') {
-                return readSum(nested) && readRightSide(nested);
+            if (!leftIsRead && (sign == '!' || sign == '(')) {
+                return readNestedUnit(sign, nested);
             }
+            if (!leftIsRead && !readSum(nested)) {
+                return false;
+            }
+            int comparison = tape.sign();
+            if (!isComparison(comparison)) {
+                return tape.failAt(tape.at);
+            }
+            tape.at++;
+            if (!readSum(nested)) {
+                return false;
+            }
+            emit(-comparison);
+            return true;
+        }
+
+        private boolean readNestedUnit(int sign, int nested) {
             if (nested >= MOST_NESTED) {
                 return tape.failAt(tape.at);
             }
             tape.at++;
-            if (sign == '(') {
-                return readUnit(nested + 1) && readMoreUnits(nested + 1) && tape.expect(')');
-            }
-            if (!readUnit(nested + 1)) {
+            if (!readUnit(nested + 1, false)) {
                 return false;
+            }
+            if (sign == '(') {
+                return readMoreUnits(nested + 1) && tape.expect(')');
             }
             emit(-'!');
             return true;
@@ -1120,19 +1132,6 @@ public final class FirstTimes {
 
         private static boolean isComparison(int sign) {
             return sign == '=' || sign == '<' || sign == '>';
-        }
-
-        private boolean readRightSide(int nested) {
-            int sign = tape.sign();
-            if (!isComparison(sign)) {
-                return tape.failAt(tape.at);
-            }
-            tape.at++;
-            if (!readSum(nested)) {
-                return false;
-            }
-            emit(-sign);
-            return true;
         }
 
         /** A + or - waits until the atoms behind it are joined. */
