@@ -14,6 +14,7 @@ public final class FaultsTest {
         markets();
         tastes();
         plans();
+        shortened();
         randomTexts();
         Told.close("FaultsTest");
     }
@@ -111,6 +112,8 @@ public final class FaultsTest {
         due(1, "y:(v=1)?2", NONE);
         due(1, "y:[v]=[1]?2", NONE);
         due(1, "y:[v=1]?2", 4);
+        due(1, "y:v=[[[[[[1]]]]]]?2", NONE);
+        due(1, "y:v=[[[[[[[1]]]]]]]?2", 10);
         due(1, "y:[(v)]", 3);
         due(1, "y:!v=1?2", NONE);
         due(1, "y:!v", 4);
@@ -118,6 +121,11 @@ public final class FaultsTest {
         due(1, "y:!!!!!!!v=1?2", 8);
         due(1, "y:!!!!!![v]=1?2", 8);
         due(1, "y:!v=1&!!!!!!v=1?2", NONE);
+        due(1, "y:v=1&!!!!!!v=1?2", NONE);
+        due(1, "y:v=1|!!!!!!!v=1?2", 12);
+        due(1, "y:(v=1&!!!!!v=1)?2", NONE);
+        due(1, "y:(v=1&!!!!!!v=1)?2", 12);
+        due(1, "y:!(v=1|!!!!!v=1)?2", 12);
         due(1, "y:((((((v=1))))))?2", NONE);
         due(1, "y:(((((((v=1)))))))?2", 8);
         due(1, "y:[[[[[[v]]]]]]", NONE);
@@ -153,6 +161,20 @@ public final class FaultsTest {
         due(2, "d;d;d;d;d;d;d;d;d;d;d;d ;d", 24);
         due(2, "d;d;d;d;d;d;d;d;d;d;d;dd", 23);
         due(2, "x", 0);
+    }
+
+    /** What stood behind the end of a tape is no part of it. */
+    private static void shortened() {
+        String[][] texts = {{"h0 ", "h0"}, {"d ;", "d"}, {"y:12345", "y:1234"}, {"x;x;pl1", "x;x;pl"}, {"x;x;p;", "x;x;p"}};
+        for (String[] text : texts) {
+            for (int sort = 0; sort < 3; sort++) {
+                FirstTimes x = new FirstTimes();
+                Told.feed(x, text[0]);
+                x.end(text[1].length());
+                Told.due("fault " + sort + " of '" + text[0] + "' cut", x.fault(sort),
+                        Told.fault(new FirstTimes(), sort, text[1]));
+            }
+        }
     }
 
     private static void randomTexts() {

@@ -111,6 +111,12 @@ public final class PromisesTest {
         due("2: nothing more fits always", x.feed(0, 0, 0, 0, 0), 240);
         due("3: 239", x.end(239), true);
         due("2: two are refused whole", x.feed(0x20200000, 0, 0, 0, 0), NONE);
+        int two = 0x00202000;
+        due("2: wherever they stand", x.feed(0, two, 0, 0, 0), NONE);
+        due("2: wherever they stand", x.feed(0, 0, two, 0, 0), NONE);
+        due("2: wherever they stand", x.feed(0, 0, 0, two, 0), NONE);
+        due("2: wherever they stand", x.feed(0, 0, 0, 0, two), NONE);
+        due("2: one each", x.feed(1, 0, 0, 0, 1), NONE);
         due("2: one fits", x.feed(0x00200000, 0, 0, 0, 0), 240);
         due("4: no such sort", x.fault(-1), -2);
         due("4: no such sort", x.fault(3), -2);
@@ -125,6 +131,9 @@ public final class PromisesTest {
         due("5: the tape stays", x.count(6), 3);
         due("5: no such sort", x.text(3), NONE);
         due("5: no such sort", x.text(-1), NONE);
+        due("5: no such sort, whatever the tape is", Told.text(x, 3, "d"), NONE);
+        due("5: no such sort, whatever the tape is", Told.text(x, -1, "x;x;p"), NONE);
+        due("5: they made nothing", x.count(0) + x.count(4) + x.count(5), 0);
         due("5: how many things", Told.text(x, 0, PAIR), 2);
         due("5: the tape is empty", x.count(6), 0);
         for (int i = 0; i < 4; i++) {
