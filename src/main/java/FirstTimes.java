@@ -1605,6 +1605,7 @@ public final class FirstTimes {
             cells[ofPerson(person, JOY)] += gave;
             int kept = Math.min(logLength(), MOST_LOGGED - 1);
             System.arraycopy(cells, LOG_AT, cells, LOG_AT + 1, kept);
+            // One number an entry, since each of the forty rows that can be undone holds a whole log.
             cells[LOG_AT] = ((today() * 1000 + gave) * Market.MOST_THINGS + thing) * Market.MOST_THINGS + person;
             cells[LOG_LENGTH_AT] = kept + 1;
         }
