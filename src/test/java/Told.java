@@ -1,11 +1,49 @@
+import java.io.IOException;
+import java.io.UncheckedIOException;
 import java.nio.charset.StandardCharsets;
+import java.nio.file.Files;
+import java.nio.file.Path;
 
 /** Texts for tests: puts them on a tape, makes markets of them, and counts answers that are not as due. */
 final class Told {
+    private static final Path DOCUMENT = Path.of("..", "shared", "DOC.md");
     private static int wrong = 0;
     private static int seen = 0;
+    private static String document = "";
+    private static String sentence = "";
 
     private Told() {
+    }
+
+    /** What follows tests these words of the document; they must stand in it, at "Terms 1" or "Promise 2", say. */
+    static void sentence(String place, String words) {
+        sentence = place + ", \"" + words + "\": ";
+        if (Files.exists(DOCUMENT)) {
+            due("it stands in the document", section(place).contains(words), true);
+        }
+    }
+
+    private static String section(String place) {
+        String head = place.startsWith("Terms ") ? "==== " + place.substring(6) + ". " : "## " + place;
+        String all = document();
+        int from = all.indexOf(head);
+        if (from < 0) {
+            return "";
+        }
+        int next = all.indexOf("\n====", from);
+        int to = all.indexOf("\n## ", from);
+        return all.substring(from, next < 0 ? to : Math.min(next, to));
+    }
+
+    private static String document() {
+        if (document.isEmpty()) {
+            try {
+                document = Files.readString(DOCUMENT);
+            } catch (IOException e) {
+                throw new UncheckedIOException(e);
+            }
+        }
+        return document;
     }
 
     static void feed(FirstTimes x, String text) {
@@ -57,7 +95,7 @@ final class Told {
         seen++;
         if (!got.equals(want)) {
             wrong++;
-            System.out.println(what + ": answered " + got + ", due is " + want);
+            System.out.println(sentence + what + ": answered " + got + ", due is " + want);
         }
     }
 
