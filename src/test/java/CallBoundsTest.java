@@ -17,6 +17,7 @@ public final class CallBoundsTest {
         newObject();
         lastCall();
         refusals();
+        apart();
         feed();
         end();
         fault();
@@ -158,6 +159,24 @@ public final class CallBoundsTest {
             Twins.refused("all of these in a row", life, 0, x -> sum(x, no));
             Twins.refused("no such sort", life, -2, x -> x.fault(3));
             Twins.refused("no such person", life, Twins.THROWN, x -> x.person(-1, 0));
+        }
+    }
+
+    /** What is only asked changes nothing, however far it looks. */
+    private static void apart() {
+        Told.sentence("Terms 3", "(Apart, from as it is.)");
+        List<ToIntFunction<FirstTimes>> asked = List.of(x -> x.order(0, 7, 1), x -> x.order(1, 7, 0), FirstTimes::clean,
+                FirstTimes::rings, x -> x.pairing(0), x -> x.pairing(1), x -> x.sale(1, 1), x -> x.awaits(0, 0, 30, 9, 1),
+                x -> x.repeats(0, 60), x -> x.kept(0, 0, 30), x -> x.kept(1, 1, 30), x -> x.kept(0, 2, 30),
+                x -> x.kept(1, 3, 30), x -> x.habit(0, 30, 0), x -> x.habit(1, 30, 1), x -> x.run(0, 0), x -> x.run(0, 1));
+        for (ToIntFunction<FirstTimes> call : asked) {
+            FirstTimes x = new FirstTimes();
+            live(x);
+            int answer = call.applyAsInt(x);
+            due("the same again", call.applyAsInt(x), answer);
+            sum(x, asked);
+            due("the same behind others", call.applyAsInt(x), answer);
+            Twins.refused("what is changed", LIFE, answer, call);
         }
     }
 

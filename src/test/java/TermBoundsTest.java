@@ -49,8 +49,10 @@ public final class TermBoundsTest {
         aheadForSure();
         yearsOfDraws();
         draws();
+        manyDays();
         theft();
         richest();
+        joysOfAll();
         lastOnes();
         images();
         Told.close("TermBoundsTest");
@@ -311,6 +313,8 @@ public final class TermBoundsTest {
         due("its money", Told.person(x, 1, 0), "8");
         due("back", x.steal(1, 0, 0), 1);
         due("five are left", x.firsts(0, 0), 5);
+        due("of another thing", x.steal(0, 1, 1), 2);
+        due("none is left there", x.firsts(1, 1), 0);
     }
 
     private static void eightPledges() {
@@ -449,6 +453,14 @@ public final class TermBoundsTest {
         due("100 days on", x.person(2, 1), 99);
         x.undo();
         due("undone", x.person(2, 1), 99);
+        FirstTimes six = Told.market(EIGHT + ";pg99" + SIX.substring(1));
+        six.days(1);
+        for (int p = 0; p < 6; p++) {
+            due("each one's age", six.person(p, 1), p == 0 ? 99 : 21);
+            for (int t = 0; t < 8; t++) {
+                due("firsts stay", six.firsts(p, t), 1);
+            }
+        }
         x.undo();
         due("undone", x.person(2, 1), 98);
     }
@@ -577,7 +589,11 @@ public final class TermBoundsTest {
         due("all of it", Told.person(w, 1, 0), "0");
         due("bought", w.firsts(1, 0), 2);
         due("stolen", w.firsts(0, 1), 2);
-        due("a price of 0 still can be", w.sell(0, 1, 1, 0), 99);
+        Told.text(w, 2, "s011,0;h01;s010,0");
+        due("1 for nothing, and none of 0", w.perform(1), 2);
+        due("had with the other one", w.firsts(0, 1), 0);
+        due("sold", w.firsts(1, 1), 1);
+        due("of 0 all are there", w.firsts(1, 0), 2);
         FirstTimes z = Told.market("x;x;p");
         z.have(0, 1);
         Told.text(z, 2, "h00");
@@ -665,6 +681,11 @@ public final class TermBoundsTest {
         due("five pairs", Told.market(EIGHT + ";p;s;sa1b0;sa2b3;sa3b2;sa4b5;sa5b4;sa6b7;sa7b6;sa0b2;sa2b0").rings(), 5);
         due("all ten both ways", Told.market("x;x;p;s;s;s;s;s;sa1b0;sa1b0;sa1b0;sa1b0;sa1b0").rings(), 5);
         due("by parts of any size", Told.market("x;x;p;sp1;sa1b0p9").rings(), 1);
+        for (String spoil : new String[] {";s", ";sa1b0"}) {
+            FirstTimes one = Told.market("x;x;p" + spoil);
+            due("none behind an order", one.order(0, 3, 1) > 0 && one.rings() == 0, true);
+            due("none behind a match", one.pairing(1) > 0 && one.rings() == 0, true);
+        }
         FirstTimes x = Told.market("x;x;x;p;p;s;sa1b0");
         for (int i = 0; i < 3; i++) {
             due("behind an order", x.order(0, 7, 1) > 0 && x.rings() == 1, true);
@@ -698,6 +719,16 @@ public final class TermBoundsTest {
         x.pledge(0, 1, 1, 0, 1);
         due("nobody holds any", x.pairing(0), 888);
         due("nothing", x.pairing(1), 0);
+        FirstTimes six = Told.market(EIGHT + ";" + SIX);
+        six.pledge(0, 5, 3, 7, 15);
+        six.pledge(1, 4, 5, 7, 15);
+        for (int i = 0; i < 48; i++) {
+            six.have(i / 8, i % 8);
+        }
+        due("six, and nobody holds any", six.pairing(0), 888888);
+        due("nothing", six.pairing(1), 0);
+        six.days(15);
+        due("what fell due can be had", six.pairing(0), 358888);
         sentence(3, "(of several the least as digits by PERSONS: the THING, 8: none, PERSON 0 the highest)");
         due("nothing is gained by 0", Told.market("xv0;xv0;p;p;p").pairing(0), 18);
         due("who likes it", Told.market("x;x;p;pl0").pairing(0), 10);
@@ -1099,6 +1130,59 @@ public final class TermBoundsTest {
         }
     }
 
+    /** Days by draws, held against plain arithmetic: firsts by persons and things, no joys. */
+    private static void manyDays() {
+        sentence(4, "on each DAY each PERSON by numbers: a draw of all THINGS: if it holds a FIRST of it, it HAS it; else a draw of "
+                + "100 below THEFT (0 .. 99; 0 at first): it STEALS one of the lowest other one that holds one; then the DAY "
+                + "ends.");
+        for (int run = 0; run < 120; run++) {
+            int things = 2 + run % 7;
+            int persons = 1 + run % 6;
+            int theft = run % 3 == 0 ? 99 : run % 3 == 1 ? 0 : 50;
+            long seed = run * 0x9e3779b97f4a7c15L;
+            FirstTimes x = Told.market("x;".repeat(things) + "p;".repeat(persons - 1) + "p");
+            x.theft(theft);
+            int[][] held = new int[persons][things];
+            for (int[] row : held) {
+                java.util.Arrays.fill(row, 1);
+            }
+            int days = 1 + run % 30;
+            int had = live(held, days, seed, theft);
+            due("the day", x.years(days, seed), days);
+            due("had in run " + run, x.count(11), had);
+            for (int p = 0; p < persons; p++) {
+                for (int t = 0; t < things; t++) {
+                    due("firsts in run " + run + ": " + p + " " + t, x.firsts(p, t), held[p][t]);
+                }
+            }
+        }
+    }
+
+    private static int live(int[][] held, int days, long seed, int theft) {
+        BigInteger n = BigInteger.valueOf(seed).mod(ROUND);
+        int had = 0;
+        for (int i = 0; i < days * held.length; i++) {
+            int p = i % held.length;
+            n = next(n);
+            int t = draw(n, held[p].length);
+            if (held[p][t] > 0) {
+                held[p][t]--;
+                had++;
+                continue;
+            }
+            n = next(n);
+            int other = 0;
+            while (other < held.length && (other == p || held[other][t] == 0)) {
+                other++;
+            }
+            if (draw(n, 100) < theft && other < held.length) {
+                held[other][t]--;
+                held[p][t]++;
+            }
+        }
+        return had;
+    }
+
     /** The second number of a seed's row: of the draw of 100 by one that holds nothing. */
     private static int second(long seed) {
         return draw(next(next(BigInteger.valueOf(seed).mod(ROUND))), 100);
@@ -1152,6 +1236,14 @@ public final class TermBoundsTest {
             x.years(1, seed);
             due("of 1, not of 2", x.firsts(1, 0) + x.firsts(1, 1), 3 - steals);
             due("2 had one itself", x.firsts(2, 0) + x.firsts(2, 1), 1);
+            FirstTimes z = Told.market("x;x;p;p;p");
+            for (int t = 0; t < 2; t++) {
+                z.sell(1, 2, t, 0);
+                z.sell(2, 0, t, 0);
+            }
+            z.theft(99);
+            z.years(1, seed);
+            due("1 stole of 0, or nothing", z.firsts(2, 0) + z.firsts(2, 1), 1);
             BigInteger n = next(next(next(BigInteger.valueOf(seed).mod(ROUND))));
             FirstTimes y = Told.market("x;x;p;p;p");
             for (int t = 0; t < 2; t++) {
@@ -1178,6 +1270,20 @@ public final class TermBoundsTest {
         due("by one", x.richest(), 1);
         x.sell(0, 1, 0, 1);
         due("by one, turned round", x.richest(), 0);
+    }
+
+    private static void joysOfAll() {
+        sentence(4, "JOYS of all together.");
+        FirstTimes x = Told.market(EIGHT + ";" + SIX);
+        due("at first", x.count(15), 0);
+        taste(x, "y:999");
+        int sum = 0;
+        for (int i = 0; i < 48; i++) {
+            sum += x.have(i / 8, i % 8);
+            due("so far", x.count(15), sum);
+        }
+        due("the most there can be", sum, 48 * 999);
+        due("a sixth of it by each", Told.person(x, 5, 3), "7992");
     }
 
     private static void lastOnes() {

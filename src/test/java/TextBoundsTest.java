@@ -21,6 +21,7 @@ public final class TextBoundsTest {
         fourTastes();
         clausesOfTastes();
         numbersInTastes();
+        sums();
         lettersInTastes();
         conditions();
         nesting();
@@ -328,6 +329,22 @@ public final class TextBoundsTest {
         fault(1, "y:vr", 3);
         fault(1, "y:v1", 3);
         fault(1, "y:1v", 3);
+    }
+
+    private static void sums() {
+        sentence("SUM: TERMS with + or - between; TERM: ATOMS with * or / between;");
+        worth("y:1+2*3", 7);
+        worth("y:20-2*3-4*2", 6);
+        worth("y:20-6-5", 9);
+        worth("y:100/7*7", 98);
+        worth("y:100*7/8/9", 9);
+        worth("y:2*3+4*5-6/2", 23);
+        worth("y:[1+2]*3", 9);
+        worth("y:20-[6-5]", 19);
+        fault(1, "y:1-", 4);
+        fault(1, "y:1*+2", 4);
+        fault(1, "y:1--2", 4);
+        fault(1, "y:-2", 2);
     }
 
     private static void lettersInTastes() {

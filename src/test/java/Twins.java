@@ -17,13 +17,19 @@ final class Twins {
 
     /** The call is refused with this answer, and changes nothing that any later call could tell. */
     static void refused(String what, Consumer<FirstTimes> life, int answer, ToIntFunction<FirstTimes> call) {
+        isRefused(what, life, answer, call);
+    }
+
+    private static boolean isRefused(String what, Consumer<FirstTimes> life, int answer, ToIntFunction<FirstTimes> call) {
         FirstTimes one = new FirstTimes();
         FirstTimes other = new FirstTimes();
         life.accept(one);
         life.accept(other);
-        Told.due(what + " is refused", answerOf(one, call), answer);
+        int answered = answerOf(one, call);
+        Told.due(what + " is refused", answered, answer);
         Told.due(what + ": all stands", standing(one), standing(other));
         goOnAlike(what, one, other);
+        return answered == answer;
     }
 
     /** An argument within low .. high is taken, and any other one refused. */
@@ -33,8 +39,10 @@ final class Twins {
             life.accept(x);
             Told.due(what + " " + n + " is taken", answerOf(x, y -> call.ask(y, n)) != refusal, true);
         }
+        // Where a number just beyond is taken, the farthest ones could keep the call busy for ever.
+        boolean bounded = true;
         for (int n : new int[] {low - 1, high + 1, Integer.MIN_VALUE, Integer.MAX_VALUE}) {
-            refused(what + " " + n, life, refusal, y -> call.ask(y, n));
+            bounded = bounded && isRefused(what + " " + n, life, refusal, y -> call.ask(y, n));
         }
     }
 
