@@ -1081,7 +1081,7 @@ public final class FirstTimes {
                 if (sign == '|' && either) {
                     emit(-'|');
                 }
-                either |= sign == '|';
+                either = either || sign == '|';
                 if (!readUnit(nested, false)) {
                     return false;
                 }
