@@ -1332,5 +1332,40 @@ public final class TermBoundsTest {
         due("by one", x.could(0), 1);
         x.days(1);
         due("acts again", x.undo(), 0);
+        outliveAMarket();
+    }
+
+    /** What promise 5 tells as outliving a market is not of it: neither an image nor an act's undoing touches it. */
+    private static void outliveAMarket() {
+        FirstTimes x = Told.market("xv3;x;p;p");
+        Told.text(x, 1, "y:7");
+        x.image();
+        x.days(1);
+        Told.text(x, 1, "y:8");
+        x.taste(1);
+        x.theft(40);
+        Told.text(x, 2, "d;d");
+        Told.feed(x, "x;");
+        due("BACK", x.back(), 0);
+        outlived(x);
+        x.days(1);
+        x.taste(0);
+        x.theft(50);
+        x.image();
+        x.taste(1);
+        x.theft(40);
+        due("the day is UNDONE", x.undo(), 0);
+        outlived(x);
+        due("BACK again", x.back(), 1);
+        outlived(x);
+    }
+
+    private static void outlived(FirstTimes x) {
+        due("TASTES stay", x.count(4), 2);
+        due("the one that holds stays", x.count(7), 1);
+        due("by which things are wanted", x.joy(0, 0, 0), 8);
+        due("PLANS stay", x.count(5), 1);
+        due("THEFT stays", x.count(9), 40);
+        due("the TAPE stays", x.count(6), 2);
     }
 }
