@@ -8,8 +8,6 @@ import java.util.ArrayList;
 import java.util.List;
 import java.util.regex.Matcher;
 import java.util.regex.Pattern;
-import javax.tools.JavaCompiler;
-import javax.tools.ToolProvider;
 
 /** Compiles what README.md shows of the class's use, and looks whether each call there answers as it is told behind it. */
 public final class ReadmeTest {
@@ -20,7 +18,7 @@ public final class ReadmeTest {
     private ReadmeTest() {
     }
 
-    public static void main(String[] args) throws IOException, ReflectiveOperationException {
+    public static void main(String[] args) throws IOException, InterruptedException, ReflectiveOperationException {
         List<String> calls = new ArrayList<>();
         List<String> answers = new ArrayList<>();
         String program = program(Files.readString(Path.of("README.md")), calls, answers);
@@ -61,15 +59,16 @@ public final class ReadmeTest {
                 + "return got.toArray();\n}\n}\n";
     }
 
-    private static Object[] run(String program) throws IOException, ReflectiveOperationException {
+    private static Object[] run(String program)
+            throws IOException, InterruptedException, ReflectiveOperationException {
         Path place = Files.createTempDirectory("readme");
         Path source = place.resolve(NAME + ".java");
         Path compiled = place.resolve(NAME + ".class");
         try {
             Files.writeString(source, program);
-            JavaCompiler compiler = ToolProvider.getSystemJavaCompiler();
-            int failed = compiler.run(null, null, null, "-cp", System.getProperty("java.class.path"), "-d",
-                    place.toString(), source.toString());
+            // The javac that .ci/run itself goes by: a java without the compiler's own library would do, too.
+            int failed = new ProcessBuilder("javac", "-cp", System.getProperty("java.class.path"), "-d",
+                    place.toString(), source.toString()).inheritIO().start().waitFor();
             Told.due("what README.md shows compiles", failed, 0);
             return failed == 0 ? answers(place) : new Object[0];
         } finally {
